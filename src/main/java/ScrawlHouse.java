@@ -60,6 +60,8 @@ public final class ScrawlHouse {
     private static final int DRAWINGS_MOST = 40;
     /** Where a READING may stand: ahead of each PLACE, and behind the last. */
     private static final int CUTS = PLACES_MOST + 1;
+    /** Kinds of WORDS that may begin at a PLACE: by SORT and length. */
+    private static final int FITS = SORTS * WORD_LONG;
     private static final int RIVALS_MOST = 1000;
     private static final int NOT_YET = -2;
     private static final int ALIKE_LETTERS = 2;
@@ -988,13 +990,15 @@ public final class ScrawlHouse {
             return NONE;
         }
 
-        int lastDrawing(int s, int d, int t) {
-            for (int i = drawings - 1; i >= 0; i--) {
-                if (drawingScrawls[i] == s && drawingDrawers[i] == d && drawingDays[i] <= t) {
-                    return i;
+        /** Of each DRAWER the last DRAWING of a SCRAWL that is KNOWN on t. */
+        void lastDrawings(int s, int t, int[] byDrawer) {
+            Arrays.fill(byDrawer, NONE);
+            for (int i = 0; i < drawings; i++) {
+                int d = drawingDrawers[i];
+                if (drawingScrawls[i] == s && drawingDays[i] <= t && d < byDrawer.length) {
+                    byDrawer[d] = i;
                 }
             }
-            return NONE;
         }
     }
 
@@ -1060,9 +1064,11 @@ public final class ScrawlHouse {
         final Readings readings;
         final int[] drawings = new int[DRAWERS];
         final int[] letterCosts = new int[PLACES_MOST * LETTERS];
-        final int[] fitCounts = new int[PLACES_MOST];
-        final int[] fitWords = new int[PLACES_MOST * WORDS_MOST];
-        final int[] fitCosts = new int[PLACES_MOST * WORDS_MOST];
+        final boolean[] listed = new boolean[PLACES_MOST];
+        /** Of the WORDS of one SORT and length at a place: the least COST, how many have it, the first of those. */
+        final int[] fitCosts = new int[PLACES_MOST * FITS];
+        final int[] fitCounts = new int[PLACES_MOST * FITS];
+        final int[] fitWords = new int[PLACES_MOST * FITS];
         final int[] formBits = new int[LETTERS];
         int[] best = new int[0];
         int[] ways = new int[0];
@@ -1104,9 +1110,7 @@ public final class ScrawlHouse {
         void gather(int s, int t) {
             places = finds.places[s];
             photo = finds.lastPhoto(s, t);
-            for (int d = 0; d < DRAWERS; d++) {
-                drawings[d] = finds.lastDrawing(s, d, t);
-            }
+            finds.lastDrawings(s, t, drawings);
         }
 
         private boolean isSameEvidence(int s) {
@@ -1165,7 +1169,7 @@ public final class ScrawlHouse {
                 for (int letter = 0; letter < LETTERS; letter++) {
                     letterCosts[place * LETTERS + letter] = letterCost(place, letter);
                 }
-                fitCounts[place] = NOT_YET;
+                listed[place] = false;
             }
         }
 
@@ -1190,53 +1194,60 @@ public final class ScrawlHouse {
             if (best[cell] != NOT_YET) {
                 return best[cell];
             }
+            best[cell] = NONE;
+            ways[cell] = 0;
+            picks[cell] = NONE;
             if (place == places) {
                 best[cell] = machine.ends[state] ? 0 : NONE;
                 ways[cell] = 1;
                 return best[cell];
             }
-            int least = NONE;
-            int many = 0;
-            int pick = NONE;
             listFits(place);
-            for (int i = 0; i < fitCounts[place]; i++) {
-                int word = fitWords[place * WORDS_MOST + i];
-                int to = machine.step(state, lore.sorts[word]);
-                int behind = place + lore.lengths[word];
-                int rest = to == NONE ? NONE : search(to, behind, depth + 1);
-                if (rest >= 0) {
-                    int total = fitCosts[place * WORDS_MOST + i] + rest;
-                    if (least == NONE || total < least) {
-                        least = total;
-                        many = 0;
-                        pick = word;
-                    }
-                    if (total == least) {
-                        many = Math.min(RIVALS_MOST, many + ways[to * CUTS + behind]);
+            for (int sort = 0; sort < SORTS; sort++) {
+                int to = machine.step(state, sort);
+                for (int length = 1; to != NONE && length <= WORD_LONG; length++) {
+                    int fit = place * FITS + sort * WORD_LONG + length - 1;
+                    if (fitCounts[fit] > 0 && search(to, place + length, depth + 1) >= 0) {
+                        weigh(cell, fit, to * CUTS + place + length);
                     }
                 }
             }
-            best[cell] = least;
-            ways[cell] = many;
-            picks[cell] = pick;
-            return least;
+            return best[cell];
         }
 
-        /** The WORDS that may begin at a place, by rising numbers: so the first of like COST is met first. */
+        /** Takes a way on from a cell, by WORDS that fit there and the rest behind them, if it is as good. */
+        private void weigh(int cell, int fit, int rest) {
+            int total = fitCosts[fit] + best[rest];
+            if (best[cell] == NONE || total < best[cell]) {
+                best[cell] = total;
+                ways[cell] = 0;
+                picks[cell] = fitWords[fit];
+            }
+            if (total == best[cell]) {
+                ways[cell] = Math.min(RIVALS_MOST, ways[cell] + fitCounts[fit] * ways[rest]);
+                picks[cell] = Math.min(picks[cell], fitWords[fit]);
+            }
+        }
+
+        /** By rising numbers, so that the first WORD of like COST is met first. */
         private void listFits(int place) {
-            if (fitCounts[place] != NOT_YET) {
+            if (listed[place]) {
                 return;
             }
-            int count = 0;
+            listed[place] = true;
+            Arrays.fill(fitCounts, place * FITS, (place + 1) * FITS, 0);
             for (int w = 0; w < lore.words; w++) {
                 int total = wordCost(w, place);
-                if (total >= 0) {
-                    fitWords[place * WORDS_MOST + count] = w;
-                    fitCosts[place * WORDS_MOST + count] = total;
-                    count++;
+                int fit = place * FITS + lore.sorts[w] * WORD_LONG + lore.lengths[w] - 1;
+                if (total >= 0 && (fitCounts[fit] == 0 || total < fitCosts[fit])) {
+                    fitCosts[fit] = total;
+                    fitCounts[fit] = 0;
+                    fitWords[fit] = w;
+                }
+                if (total >= 0 && total == fitCosts[fit]) {
+                    fitCounts[fit]++;
                 }
             }
-            fitCounts[place] = count;
         }
 
         private int wordCost(int w, int place) {
