@@ -7,6 +7,8 @@ public final class HandsTest {
         agree();
         hands();
         asOf();
+        apartEitherWay();
+        withOneOfThem();
         CHECK.finish();
     }
 
@@ -146,5 +148,38 @@ public final class HandsTest {
         CHECK.due("agree, day 1", x.agree(p, q, 1), 3);
         CHECK.due("agree, day 2", x.agree(p, q, 2), -4);
         CHECK.due("agree, day 0", x.agree(p, q, 0), 0);
+    }
+
+    private static void apartEitherWay() {
+        ScrawlHouse x = house();
+        int p = abc(x, 0, 0, 0);
+        int q = abc(x, 0, 0, 0);
+        x.fact(1, p, 0, 80, 120);
+        x.fact(1, q, 0, 0, 20);
+        CHECK.due("60 years ahead", x.hand(q, 0), 0);
+        x.fact(1, q, 0, 0, 19);
+        CHECK.due("61 years ahead", x.hand(q, 0), 1);
+    }
+
+    private static void withOneOfThem() {
+        ScrawlHouse x = new ScrawlHouse();
+        for (int letter = 0; letter < 4; letter++) {
+            x.form(letter, 1 << letter);
+            x.form(letter, 16 << letter);
+        }
+        x.wall(0, 1);
+        Tell.patterns(x, "name;");
+        Tell.word(x, "ab", 0);
+        Tell.word(x, "abcd", 0);
+        Tell.word(x, "cd", 0);
+        int ab = x.scrawl(0, 0, 2);
+        int abcd = x.scrawl(0, 0, 4);
+        int cd = x.scrawl(0, 0, 2);
+        Tell.photo(x, ab, 1, 0, 2, 0);
+        Tell.photo(x, abcd, 1, 0, 2, 0, 4, 0, 8, 0);
+        Tell.photo(x, cd, 4, 0, 8, 0);
+        CHECK.due("abcd", x.hand(abcd, 0), 0);
+        CHECK.due("ab and cd share nothing", x.agree(ab, cd, 0), 0);
+        CHECK.due("cd, with one of the two", x.hand(cd, 0), 0);
     }
 }

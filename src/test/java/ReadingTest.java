@@ -9,6 +9,8 @@ public final class ReadingTest {
         rivalsAtMost();
         asOf();
         longest();
+        toldLater();
+        patternsSideBySide();
         CHECK.finish();
     }
 
@@ -167,5 +169,48 @@ public final class ReadingTest {
         CHECK.due("all names", x.octet(1), 0);
         CHECK.due("two rows", x.reading(0, 0, 1), 2);
         CHECK.due("count(10)", x.count(10), 6);
+    }
+
+    /** What was read once is read anew when FORMS, WORDS, HABITS or PATTERNS change. */
+    private static void toldLater() {
+        ScrawlHouse x = house("name;");
+        x.form(0, 1);
+        x.form(1, 2);
+        Tell.word(x, "b", 0);
+        x.scrawl(0, 0, 1);
+        x.scrawl(0, 0, 1);
+        Tell.photo(x, 0, 4, 0);
+        Tell.drawing(x, 1, 0, "a");
+        CHECK.due("no form", x.read(0, 0), 0);
+        CHECK.due("no word", x.read(1, 0), 0);
+        CHECK.due("a form that is there", x.form(1, 2), -1);
+        x.form(1, 4);
+        CHECK.due("a form told later", x.read(0, 0), 1);
+        CHECK.due("its number", x.used(0, 1, 0), 1);
+        x.habit(0, 1, 0);
+        CHECK.due("a habit told later", x.reading(1, 0, 0), 2);
+        Tell.word(x, "a", 0);
+        CHECK.due("a word told later", x.reading(1, 0, 0), 0);
+        Tell.patterns(x, "trade;");
+        CHECK.due("patterns told later", x.read(1, 0), 0);
+        Tell.patterns(x, "name");
+        CHECK.due("a fault", x.read(1, 0), 0);
+        Tell.patterns(x, "name;");
+        CHECK.due("patterns told again", x.read(1, 0), 1);
+        Tell.word(x, "abcdefghij", 0);
+        int ten = x.scrawl(0, 0, 10);
+        CHECK.due("a word of ten", x.read(ten, 0), 1);
+    }
+
+    private static void patternsSideBySide() {
+        ScrawlHouse x = house("name other? other? other? other? other?; office;");
+        Tell.word(x, "a", 0);
+        Tell.word(x, "b", 2);
+        x.scrawl(0, 0, 2);
+        CHECK.due("the end of one is not the beginning of the next", x.read(0, 0), 0);
+        Tell.patterns(x, "name trade?; trade? office; thing other; office;");
+        CHECK.due("nor are they joined", x.read(0, 0), 0);
+        Tell.patterns(x, "office name; name name;");
+        CHECK.due("two rows", x.reading(0, 0, 1), 2);
     }
 }

@@ -18,6 +18,9 @@ public final class YearsTest {
         asOf();
         spoiltSetFree();
         fullAndSwinging();
+        chains();
+        firstAndLastYears();
+        manyThings();
         CHECK.finish();
     }
 
@@ -243,5 +246,79 @@ public final class YearsTest {
         spans(x, "p", p, 60, 60);
         spans(x, "q", q, 60, 60);
         CHECK.due("count(8)", x.count(8), 79);
+    }
+
+    /** Told against their order, so that what the last one holds must go on to the first. */
+    private static void chains() {
+        ScrawlHouse x = house(1);
+        int p = scrawl(x, 0, "m");
+        int q = scrawl(x, 0, "m");
+        int r = scrawl(x, 0, "m");
+        x.fact(0, 0, 0, 0, 10);
+        x.fact(2, q, r, 0, 0);
+        x.fact(2, p, q, 0, 0);
+        x.fact(1, r, 0, 0, 60);
+        x.fact(1, p, 0, 50, 199);
+        spans(x, "p", p, 50, 60);
+        spans(x, "q", q, 50, 60);
+        spans(x, "r", r, 50, 60);
+        lays(x, "layer", 0, 0, 10);
+        ScrawlHouse y = house(4);
+        int top = scrawl(y, 3, "m");
+        int low = scrawl(y, 0, "m");
+        y.fact(1, low, 0, 77, 199);
+        y.fact(1, top, 0, 0, 88);
+        lays(y, "y 0", 0, 0, 88);
+        lays(y, "y 1", 1, 77, 88);
+        lays(y, "y 2", 2, 77, 88);
+        lays(y, "y 3", 3, 77, 88);
+        spans(y, "y low", low, 77, 88);
+        spans(y, "y top", top, 77, 88);
+    }
+
+    private static void firstAndLastYears() {
+        ScrawlHouse x = house(1);
+        int p = scrawl(x, 0, "ma");
+        int q = scrawl(x, 0, "m");
+        CHECK.due("stood in 0", x.fact(3, MARK, AEDILE, 0, 0), 0);
+        spans(x, "p", p, 0, 0);
+        x.fact(1, q, 0, 199, 199);
+        spans(x, "q", q, 199, 199);
+        CHECK.due("stood in 199", x.fact(3, MARK, AEDILE, 199, 0), 2);
+        spans(x, "p", p, 0, 199);
+        x.fact(1, p, 0, 1, 199);
+        spans(x, "p at last", p, 199, 199);
+        x.fact(0, 0, 0, 0, 0);
+        lays(x, "layer", 0, 0, 0);
+    }
+
+    /** Each thing, and the office, holds a SCRAWL by itself. */
+    private static void manyThings() {
+        ScrawlHouse x = new ScrawlHouse();
+        for (int i = 0; i < 6; i++) {
+            Tell.word(x, "" + (char) ('a' + i), 3);
+        }
+        Tell.word(x, "m", 0);
+        Tell.word(x, "o", 2);
+        Tell.patterns(x, "thing thing thing thing thing thing; thing name office;");
+        x.wall(0, 1);
+        int six = scrawl(x, 0, "abcdef");
+        int other = scrawl(x, 0, "bmo");
+        for (int i = 0; i < 6; i++) {
+            x.fact(4, i, 0, 0, 20 + i);
+            x.fact(4, i, 0, 190 - i, 199);
+        }
+        spans(x, "six", six, 0, 199);
+        x.fact(1, six, 0, 0, 189);
+        spans(x, "six below 190", six, 0, 20);
+        x.fact(1, six, 0, 20, 189);
+        spans(x, "six in 20", six, 20, 20);
+        x.fact(3, 6, 7, 195, 0);
+        spans(x, "thing and office", other, 195, 195);
+        x.fact(3, 6, 7, 100, 0);
+        spans(x, "a year of one alone", other, 195, 195);
+        CHECK.due("not spoilt", x.spoilt(0), -1);
+        x.fact(1, other, 0, 0, 194);
+        CHECK.due("spoilt", x.spoilt(0), 16);
     }
 }
