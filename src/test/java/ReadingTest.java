@@ -183,10 +183,10 @@ public final class ReadingTest {
         Tell.drawing(x, 1, 0, "a");
         CHECK.due("no form", x.read(0, 0), 0);
         CHECK.due("no word", x.read(1, 0), 0);
-        CHECK.due("a form that is there", x.form(1, 2), -1);
         x.form(1, 4);
         CHECK.due("a form told later", x.read(0, 0), 1);
         CHECK.due("its number", x.used(0, 1, 0), 1);
+        CHECK.due("no habit", x.read(1, 0), 0);
         x.habit(0, 1, 0);
         CHECK.due("a habit told later", x.reading(1, 0, 0), 2);
         Tell.word(x, "a", 0);
