@@ -1,4 +1,5 @@
 import java.io.IOException;
+import java.lang.reflect.Array;
 import java.lang.reflect.Constructor;
 import java.lang.reflect.Field;
 import java.lang.reflect.Method;
@@ -6,6 +7,8 @@ import java.lang.reflect.Modifier;
 import java.nio.file.Files;
 import java.nio.file.Path;
 import java.util.ArrayList;
+import java.util.Collections;
+import java.util.IdentityHashMap;
 import java.util.List;
 import java.util.Set;
 import java.util.TreeSet;
@@ -24,10 +27,11 @@ public final class RulesTest {
             "int spoilt(int)", "int persons(int,int)", "int person(int,int)", "int walk(int,int,int)",
             "int count(int)");
 
-    public static void main(String[] args) throws IOException {
+    public static void main(String[] args) throws IOException, IllegalAccessException {
         face();
         inside();
         text();
+        room();
         CHECK.finish();
     }
 
@@ -113,5 +117,46 @@ public final class RulesTest {
                 open = -1;
             }
         }
+    }
+
+    /**
+     * All calls of a run have one room of 7.3 million elements and 600,000 objects: a house stays small,
+     * even with PATTERNS that have as many states as can be and a SCRAWL of 24 PLACES.
+     */
+    private static void room() throws IllegalAccessException {
+        ScrawlHouse x = new ScrawlHouse();
+        String[] patterns = {"name?trade?office?thing?other?name;", "other?thing?office?trade?name?other;",
+            "thing?name?other?trade?office?thing;", "trade?other?name?office?thing?trade;",
+            "office?thing?trade?name?other?office;"};
+        Tell.word(x, "a", 0);
+        x.wall(0, 1);
+        x.scrawl(0, 0, 24);
+        StringBuilder text = new StringBuilder();
+        for (String pattern : patterns) {
+            text.append(pattern);
+            CHECK.due("patterns '" + text + "'", Tell.patterns(x, text.toString()) > 0, true);
+            CHECK.due("read", x.read(0, 0), 0);
+        }
+        Set<Object> seen = Collections.newSetFromMap(new IdentityHashMap<>());
+        long elements = elementsOf(x, seen);
+        CHECK.due("objects: " + seen.size(), seen.size() <= 200, true);
+        CHECK.due("elements: " + elements, elements <= 100000, true);
+    }
+
+    private static long elementsOf(Object one, Set<Object> seen) throws IllegalAccessException {
+        if (one == null || !seen.add(one)) {
+            return 0;
+        }
+        if (one.getClass().isArray()) {
+            return Array.getLength(one);
+        }
+        long sum = 0;
+        for (Field field : one.getClass().getDeclaredFields()) {
+            if (!Modifier.isStatic(field.getModifiers())) {
+                field.setAccessible(true);
+                sum += 1 + (field.getType().isPrimitive() ? 0 : elementsOf(field.get(one), seen));
+            }
+        }
+        return sum;
     }
 }
